@@ -221,12 +221,15 @@ public final class CellSwitchAnyState {
         return (int) ((row >>> 33) % bound);
     }
 
-    /** A state that many mixed calls have made: in some of them rates are narrow, in some a queue is crowded. */
+    /** A state that many mixed calls have made: in some of them a queue is crowded, in some rates are narrow. */
     private static void mixed(CellSwitch x, int number) {
         row = 0x9E3779B97F4A7C15L * (number + 1);
         for (int c = 0; c < 8; c++) {
-            int to = number % 3 == 0 ? number % 4 : below(4);
-            x.open(c, 4 * below(4) + to, number % 3 == 1 ? 1 + below(8) : 1, number % 3 == 1 ? below(9) : 40);
+            switch (number % 3) {
+                case 0 -> x.open(c, 4 * below(4) + number % 4, 1, 40);
+                case 1 -> x.open(c, below(16), 1 + below(8), below(9));
+                default -> x.open(c, below(16), 2 + below(2), below(41));
+            }
         }
         for (int round = 0; round < 12; round++) {
             for (int i = 0; i < 3; i++) {
@@ -300,15 +303,25 @@ public final class CellSwitchAnyState {
         }
     }
 
+    /** Posts where no post or fill is refused: a refusal here would hide what a refusal before has changed. */
+    private static void postWhereRoom(CellSwitch x, List<Integer> seen) {
+        int held = x.run(0, 0, 0);
+        for (int c = 0; c < 8; c++) {
+            int waits = x.waiting(c);
+            if (waits == 0 || waits == 1) {
+                seen.add(held < 27 ? x.fill(c) : held);
+                seen.add(x.post(c));
+                held = 0;
+            }
+        }
+    }
+
     /** Frames are sent at once, which shows the turns, DUE, and what is turned, broken and kept. */
     private static List<Integer> sendAtOnce(CellSwitch x) {
         List<Integer> seen = new ArrayList<>();
         askAll(x, seen);
         takeAll(x, seen);
-        for (int c = 0; c < 8; c++) {
-            seen.add(x.post(c));
-            seen.add(x.fill(c));
-        }
+        postWhereRoom(x, seen);
         for (int i = 0; i < 4; i++) {
             seen.add(x.pass(1));
             askAll(x, seen);
