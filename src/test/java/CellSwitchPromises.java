@@ -942,6 +942,27 @@ public final class CellSwitchPromises {
         due("take", x.take(1), 27);
     }
 
+    /** The example of README.md, call by call, so that what it tells stays true. */
+    private static void readmeExample() {
+        part = "README.md";
+        CellSwitch net = new CellSwitch();
+        due("open", net.open(2, 4 * 0 + 3, 1, 0), 0);
+        due("fill", net.fill(65), 1);
+        due("run", net.run(66, 1, 4), 5);
+        due("post", net.post(2), 2);
+        due("pass", net.pass(2), 1);
+        due("first", net.first(3), 69);
+        due("byteOf", net.byteOf(3, 0), 65);
+        due("take", net.take(3), 69);
+        due("take again", net.take(3), NONE);
+        due("turn", net.turn(0, 3, 0), 0);
+        due("run after post", net.run(1, 1, 3), 3);
+        due("post of three bytes", net.post(2), 1);
+        due("pass of a bad frame", net.pass(1), 0);
+        due("counted", net.counted(5), 1);
+        due("close", net.close(2), 0);
+    }
+
     public static void main(String[] args) {
         newObject();
         objectsAreApart();
@@ -985,6 +1006,7 @@ public final class CellSwitchPromises {
         inboxQuestions();
         inboxOutlivesCircuit();
         manyFrames();
+        readmeExample();
         System.out.println(wrong == 0 ? "all answers are as due" : wrong + " answers are not as due");
         if (wrong != 0) {
             System.exit(1);
